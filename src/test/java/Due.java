@@ -13,6 +13,10 @@ final class Due {
         is(call, got ? 1 : 0, want ? 1 : 0);
     }
 
+    int wrong() {
+        return wrong;
+    }
+
     void finish() {
         System.out.println(wrong == 0 ? "all answers are as due" : wrong + " answers are not as due");
         System.exit(wrong == 0 ? 0 : 1);

@@ -6,7 +6,7 @@ public final class ModelTest {
     private long seed;
     private CanoeMaster x;
     private PlainModel m;
-    private int wrong = 0;
+    private final Due due = new Due();
     private final StringBuilder text = new StringBuilder();
     private final int[] blindAnswers = new int[16];
     private final int[] faultAnswers = new int[4];
@@ -14,22 +14,21 @@ public final class ModelTest {
 
     public static void main(String[] args) {
         ModelTest test = new ModelTest();
-        for (int run = 0; run < RUNS && test.wrong == 0; run++) {
+        for (int run = 0; run < RUNS && test.due.wrong() == 0; run++) {
             test.go(run);
         }
         test.checkThatRunsReachMuch();
-        System.out.println(test.wrong == 0 ? "all answers are as due" : test.wrong + " answers are not as due");
-        System.exit(test.wrong == 0 ? 0 : 1);
+        test.due.finish();
     }
 
     private void checkThatRunsReachMuch() {
         for (int i = 0; i < faultAnswers.length; i++) {
-            due("fault " + i + " came up", faultAnswers[i] > 0 ? 1 : 0, 1);
+            due.is("fault " + i + " came up", faultAnswers[i] > 0, true);
         }
         for (int i = 0; i < 8; i++) {
-            due("blind(0) answered " + (i - 2), blindAnswers[i] > 0 ? 1 : 0, 1);
+            due.is("blind(0) answered " + (i - 2), blindAnswers[i] > 0, true);
         }
-        due("chants landed surely", sureLandings > 100 ? 1 : 0, 1);
+        due.is("chants landed surely", sureLandings > 100, true);
     }
 
     private int any(int n) {
@@ -37,27 +36,16 @@ public final class ModelTest {
         return (int) ((seed >>> 33) % n);
     }
 
-    private void due(String call, long got, long want) {
-        if (got != want) {
-            wrong++;
-            System.out.println(call + " answered " + got + ", due is " + want);
-        }
-    }
-
-    private void due(String call, boolean got, boolean want) {
-        due(call, got ? 1 : 0, want ? 1 : 0);
-    }
-
     private void go(int run) {
         seed = 77L * run + 5;
         x = new CanoeMaster();
         m = new PlainModel();
         int widest = 2 + run % 7;
-        for (int call = 0; call < CALLS && wrong == 0; call++) {
+        for (int call = 0; call < CALLS && due.wrong() == 0; call++) {
             change(widest);
             compareState();
         }
-        if (wrong > 0) {
+        if (due.wrong() > 0) {
             System.out.println("in run " + run);
         }
     }
@@ -79,28 +67,28 @@ public final class ModelTest {
                 if (any(6) == 0) {
                     a = any(widest + 1) + any(2);
                     b = any(widest + 1) + any(2);
-                    due("sea(" + a + ", " + b + ")", x.sea(a, b), m.sea(a, b));
+                    due.is("sea(" + a + ", " + b + ")", x.sea(a, b), m.sea(a, b));
                 }
                 break;
             case 1: case 2:
                 a = any(m.look(0) * m.look(1) + 2) - 1;
                 b = any(3) == 0 ? -1 : any(6) - 1;
-                due("land(" + a + ", " + b + ")", x.land(a, b), m.land(a, b));
+                due.is("land(" + a + ", " + b + ")", x.land(a, b), m.land(a, b));
                 break;
             case 3: case 4:
                 a = any(m.look(0) * m.look(1) + 2) - 1;
                 b = any(6) - 1;
-                due("swell(" + a + ", " + b + ")", x.swell(a, b), m.swell(a, b));
+                due.is("swell(" + a + ", " + b + ")", x.swell(a, b), m.swell(a, b));
                 break;
             case 5:
                 a = any(8) - 1;
                 b = driftSet();
-                due("drifts(" + a + ", " + b + ")", x.drifts(a, b), m.drifts(a, b));
+                due.is("drifts(" + a + ", " + b + ")", x.drifts(a, b), m.drifts(a, b));
                 break;
             case 6:
                 a = any(67) - 1;
                 b = any(67) - 1;
-                due("watches(" + a + ", " + b + ")", x.watches(a, b), m.watches(a, b));
+                due.is("watches(" + a + ", " + b + ")", x.watches(a, b), m.watches(a, b));
                 break;
             case 7: case 8:
                 long set = 0;
@@ -108,24 +96,24 @@ public final class ModelTest {
                     set |= 1L << any(Math.min(64, m.look(0) * m.look(1) + (any(8) == 0 ? 1 : 0)));
                 }
                 set = any(5) == 0 ? -1L >>> (64 - m.look(0) * m.look(1)) : set;
-                due("begin(" + set + ")", x.begin(set), m.begin(set));
+                due.is("begin(" + set + ")", x.begin(set), m.begin(set));
                 break;
             case 9: case 10: case 11:
                 a = any(m.look(0) * m.look(1) + 2) - 1;
-                due("put(" + a + ")", x.put(a), m.put(a));
+                due.is("put(" + a + ")", x.put(a), m.put(a));
                 break;
             case 12: case 13: case 14: case 15: case 16:
                 a = any(11) - 1;
                 b = any(3) == 0 ? any(11) - 1 : Integer.numberOfTrailingZeros(m.look(10 + m.look(2) % 6));
-                due("steer(" + a + ", " + b + ")", x.steer(a, b), m.steer(a, b));
+                due.is("steer(" + a + ", " + b + ")", x.steer(a, b), m.steer(a, b));
                 break;
             case 17: case 18:
                 a = any(5) - 1;
                 b = any(6) - 1;
-                due("see(" + a + ", " + b + ")", x.see(a, b), m.see(a, b));
+                due.is("see(" + a + ", " + b + ")", x.see(a, b), m.see(a, b));
                 break;
             case 19:
-                due("sights()", x.sights(), m.sights());
+                due.is("sights()", x.sights(), m.sights());
                 break;
             case 20: case 21:
                 writeAnything();
@@ -139,33 +127,33 @@ public final class ModelTest {
         int a = any(5) - 1;
         switch (any(6)) {
             case 0:
-                due("sure(" + a + ")", x.sure(a), m.sure(a));
+                due.is("sure(" + a + ")", x.sure(a), m.sure(a));
                 sureLandings += m.sure(0) > 0 ? 1 : 0;
                 break;
             case 1:
                 int cell = any(m.look(0) * m.look(1) + 2) - 1;
-                due("from(" + cell + ")", x.from(cell), m.from(cell));
+                due.is("from(" + cell + ")", x.from(cell), m.from(cell));
                 break;
             case 2:
                 int line = any(m.look(6) + 2) - 1;
-                due("sings(" + line + ")", x.sings(line), m.sings(line));
+                due.is("sings(" + line + ")", x.sings(line), m.sings(line));
                 break;
             case 3:
                 int what = any(40) == 0 ? any(26) : 0;
                 int told = m.blind(what);
-                due("blind(" + what + ")", x.blind(what), told);
+                due.is("blind(" + what + ")", x.blind(what), told);
                 blindAnswers[what == 0 ? told + 2 : 15]++;
                 for (int i = 10; i < 10 + told && what == 0; i++) {
-                    due("blind(" + i + ")", x.blind(i), m.blind(i));
+                    due.is("blind(" + i + ")", x.blind(i), m.blind(i));
                 }
                 break;
             case 4:
                 int at = any(m.look(0) * m.look(1) + 2) - 1;
                 int watch = any(8) - 1;
-                due("sign(" + at + ", " + watch + ", " + a + ")", x.sign(at, watch, a), m.sign(at, watch, a));
+                due.is("sign(" + at + ", " + watch + ", " + a + ")", x.sign(at, watch, a), m.sign(at, watch, a));
                 break;
             default:
-                due("fault(" + a + ")", x.fault(a), m.fault(a));
+                due.is("fault(" + a + ")", x.fault(a), m.fault(a));
         }
     }
 
@@ -180,13 +168,13 @@ public final class ModelTest {
         }
         int cut = any(6) == 0 ? any(text.length() + 1) : text.length();
         for (int from = 0; from < text.length(); from += 20) {
-            due("feed", x.feed(word(from), word(from + 4), word(from + 8), word(from + 12), word(from + 16)),
+            due.is("feed", x.feed(word(from), word(from + 4), word(from + 8), word(from + 12), word(from + 16)),
                 m.feed(word(from), word(from + 4), word(from + 8), word(from + 12), word(from + 16)));
         }
-        due("end(" + cut + ")", x.end(cut), m.end(cut));
-        due("chant() of " + text.substring(0, Math.min(cut, text.length())), x.chant(), m.chant());
-        due("fault(0)", x.fault(0), m.fault(0));
-        due("fault(1)", x.fault(1), m.fault(1));
+        due.is("end(" + cut + ")", x.end(cut), m.end(cut));
+        due.is("chant() of " + text.substring(0, Math.min(cut, text.length())), x.chant(), m.chant());
+        due.is("fault(0)", x.fault(0), m.fault(0));
+        due.is("fault(1)", x.fault(1), m.fault(1));
         faultAnswers[m.fault(0)]++;
     }
 
@@ -213,12 +201,12 @@ public final class ModelTest {
     }
 
     private void compareState() {
-        due("reckoned()", x.reckoned(), m.reckoned());
+        due.is("reckoned()", x.reckoned(), m.reckoned());
         for (int what = -1; what < 20; what++) {
-            due("look(" + what + ")", x.look(what), m.look(what));
+            due.is("look(" + what + ")", x.look(what), m.look(what));
         }
         int cell = any(70) - 2;
-        due("look(100 + " + cell + ")", x.look(100 + cell), m.look(100 + cell));
-        due("look(200 + " + cell + ")", x.look(200 + cell), m.look(200 + cell));
+        due.is("look(100 + " + cell + ")", x.look(100 + cell), m.look(100 + cell));
+        due.is("look(200 + " + cell + ")", x.look(200 + cell), m.look(200 + cell));
     }
 }

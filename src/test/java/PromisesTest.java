@@ -19,6 +19,7 @@ public final class PromisesTest {
         test.put();
         test.steer();
         test.steerClamps();
+        test.steerToTheLastHour();
         test.sign();
         test.signOfBirds();
         test.see();
@@ -37,6 +38,7 @@ public final class PromisesTest {
         test.blind();
         test.blindTwelve();
         test.blindSpent();
+        test.blindAtTheEdgeOfSpent();
         test.blindAfterChanges();
         test.due.finish();
     }
@@ -297,6 +299,16 @@ public final class PromisesTest {
         x.drifts(0, 1 << 8);
         x.steer(8, 8);
         due.is("11: in the corners of 64", x.reckoned(), 1L << 63 | 1L << 23 | 1L << 58);
+    }
+
+    private void steerToTheLastHour() {
+        CanoeMaster x = new CanoeMaster();
+        for (int hour = 0; hour < 9999; hour++) {
+            x.steer(4, 4);
+        }
+        due.is("11: look(2)", x.look(2), 9999);
+        due.is("11: steer(4, 4) at hour 9999", x.steer(4, 4), -1);
+        due.is("11: look(2)", x.look(2), 9999);
     }
 
     private void sign() {
@@ -713,16 +725,19 @@ public final class PromisesTest {
         onlyEverySecondHour(7, -1);
     }
 
-    /** Watches 0, 2 and 4 undo the way to the land, so that one cell takes two hours. */
+    /**
+     * Watches 0, 2 and 4 undo the way to the land, so that one cell takes two hours, and the drifts keep both rows
+     * reckoned: the same set must be gone on from in more than one watch.
+     */
     private void onlyEverySecondHour(int off, int hours) {
         CanoeMaster x = new CanoeMaster();
         x.sea(8, 2);
-        for (int watch = 0; watch < 6; watch += 2) {
-            x.drifts(watch, 1 << 5);
+        for (int watch = 0; watch < 6; watch++) {
+            x.drifts(watch, watch % 2 == 0 ? 1 << 2 | 1 << 8 : 1 << 1 | 1 << 7);
         }
         x.land(0, 0);
         x.land(8, 0);
-        x.begin(1L << off);
+        x.begin(1L << off | 1L << off + 8);
         due.is("22: " + off + " cells off, every second hour", x.blind(0), hours);
         due.is("22: its last way or none", x.blind(10 + 11), hours == 12 ? 0 : hours < 0 ? -1 : -2);
     }
@@ -738,6 +753,29 @@ public final class PromisesTest {
         due.is("22: SPENT at a way", x.blind(10), -2);
         x.begin(1L << 27);
         due.is("22: but not where it is landed", x.blind(0), 0);
+    }
+
+    /** How many sets come up ahead of the best row was counted by a search of its own. */
+    private void blindAtTheEdgeOfSpent() {
+        int[] land3000 = {22, 14, 4};
+        int[] drift3000 = {16, 260, 66, 36, 20, 48};
+        due.is("22: 3000 come up ahead of it", blindIn(6, 4, land3000, drift3000, 0xffffffL), 7);
+        int[] land3001 = {7, 2, 0};
+        int[] drift3001 = {272, 20, 272, 16, 16, 132};
+        due.is("22: 3001 come up ahead of it", blindIn(3, 6, land3001, drift3001, 63794), -2);
+    }
+
+    private static int blindIn(int w, int h, int[] lands, int[] drifts, long set) {
+        CanoeMaster x = new CanoeMaster();
+        x.sea(w, h);
+        for (int cell : lands) {
+            x.land(cell, 0);
+        }
+        for (int watch = 0; watch < 6; watch++) {
+            x.drifts(watch, drifts[watch]);
+        }
+        x.begin(set);
+        return x.blind(0);
     }
 
     private void blindAfterChanges() {
