@@ -939,6 +939,8 @@ public final class CanoeMaster {
         private int goOn(Sea waters, int at, int hours) {
             int watch = setWatches[at];
             int nextWatch = (watch + 1) % WATCH_COUNT;
+            // No row goes on behind the last hour, so the sets that come up there do not count.
+            boolean keeps = hours + 1 < MOST_BLIND_HOURS;
             waters.spread(sets[at]);
             for (int way = 0; way < WAY_COUNT; way++) {
                 long next = waters.spreadBy(way, watch);
@@ -946,7 +948,7 @@ public final class CanoeMaster {
                     writeRow(at, way, hours);
                     return FOUND;
                 }
-                if (!keepNew(next, nextWatch, at * WAY_COUNT + way)) {
+                if (keeps && !keepNew(next, nextWatch, at * WAY_COUNT + way)) {
                     return SPENT;
                 }
             }

@@ -463,7 +463,7 @@ final class PlainModel {
         seen.add(queue.get(0).known());
         for (int at = 0; at < queue.size(); at++) {
             Step step = queue.get(at);
-            for (int way = 0; way < 9 && step.ways().size() < 12; way++) {
+            for (int way = 0; way < 9; way++) {
                 Set<Integer> to = goneAll(step.known().set(), way, step.known().watch());
                 List<Integer> ways = new ArrayList<>(step.ways());
                 ways.add(way);
@@ -471,7 +471,7 @@ final class PlainModel {
                     return ways;
                 }
                 Known known = new Known(to, (step.known().watch() + 1) % 6);
-                if (seen.add(known)) {
+                if (ways.size() < 12 && seen.add(known)) {
                     if (seen.size() > 3000) {
                         return List.of(-2);
                     }

@@ -39,6 +39,7 @@ public final class PromisesTest {
         test.blindTwelve();
         test.blindSpent();
         test.blindAtTheEdgeOfSpent();
+        test.blindBehindTwelveHours();
         test.blindAfterChanges();
         test.due.finish();
     }
@@ -763,6 +764,23 @@ public final class PromisesTest {
         int[] land3001 = {7, 2, 0};
         int[] drift3001 = {272, 20, 272, 16, 16, 132};
         due.is("22: 3001 come up ahead of it", blindIn(3, 6, land3001, drift3001, 63794), -2);
+    }
+
+    /** How many sets come up behind 11 and behind 12 hours was counted by a search of its own. */
+    private void blindBehindTwelveHours() {
+        int[] none = {};
+        int[] still = {16, 16, 16, 16, 16, 16};
+        due.is("22: 2997 behind 11 hours, 3063 behind 12", blindIn(6, 6, none, still, 64424509468L), -1);
+        int[] drift3000 = {128, 256, 36, 129, 256, 8};
+        due.is("22: 3000 behind 11 hours, 3520 behind 12", blindIn(8, 3, none, drift3000, 0xffffffL), -1);
+        int[] drift3001 = {2, 32, 64, 1, 32, 129};
+        due.is("22: 3001 behind 11 hours", blindIn(5, 3, none, drift3001, 22183), -2);
+        int[] two = {4, 6};
+        int[] driftTwo = {2, 1, 64, 129, 16, 64};
+        due.is("22: 2844 behind 11 hours, 439 more ahead of it", blindIn(8, 2, two, driftTwo, 42875), 12);
+        int[] one = {20};
+        int[] driftOne = {16, 4, 3, 2, 16, 16};
+        due.is("22: 2911 behind 11 hours, 282 more ahead of it", blindIn(3, 7, one, driftOne, 1493395), 12);
     }
 
     private static int blindIn(int w, int h, int[] lands, int[] drifts, long set) {
