@@ -179,11 +179,7 @@ public final class ModelTest {
     }
 
     private int word(int from) {
-        int word = 0;
-        for (int i = from; i < from + 4; i++) {
-            word = word << 8 | (i < text.length() ? text.charAt(i) : 32);
-        }
-        return word;
+        return Texts.word(text, from);
     }
 
     private void writeLine(boolean tight) {

@@ -19,7 +19,6 @@ public final class PromisesTest {
         test.put();
         test.steer();
         test.steerClamps();
-        test.steerToTheLastHour();
         test.sign();
         test.signOfBirds();
         test.see();
@@ -44,35 +43,6 @@ public final class PromisesTest {
         test.due.finish();
     }
 
-    /** Feeds a text and cuts the tape to its length; the tape must be empty before. */
-    private static void write(CanoeMaster x, String text) {
-        for (int at = 0; at < text.length(); at += 20) {
-            x.feed(word(text, at), word(text, at + 4), word(text, at + 8), word(text, at + 12), word(text, at + 16));
-        }
-        x.end(text.length());
-    }
-
-    private static int word(String text, int from) {
-        int word = 0;
-        for (int i = from; i < from + 4; i++) {
-            word = word << 8 | (i < text.length() ? text.charAt(i) : '?');
-        }
-        return word;
-    }
-
-    private static int chant(CanoeMaster x, String text) {
-        write(x, text);
-        return x.chant();
-    }
-
-    private void faultOf(String text, int fault, int place) {
-        CanoeMaster x = new CanoeMaster();
-        String told = "'" + text + "': ";
-        due.is(told + "chant() of a fault", chant(x, text) == CanoeMaster.NONE, fault != 0);
-        due.is(told + "fault(0)", x.fault(0), fault);
-        due.is(told + "fault(1)", x.fault(1), place);
-    }
-
     private void newObject() {
         CanoeMaster x = new CanoeMaster();
         int[] first = {4, 4, 0, 16, 0, -1, 0, 0, 0, -2, 16, 16, 16, 16, 16, 16, -2};
@@ -92,7 +62,7 @@ public final class PromisesTest {
 
     private void sea() {
         CanoeMaster x = new CanoeMaster();
-        chant(x, "steer 1 for 2;");
+        Texts.chant(x, "steer 1 for 2;");
         x.land(3, 2);
         x.swell(3, 2);
         x.drifts(3, 3);
@@ -302,16 +272,6 @@ public final class PromisesTest {
         due.is("11: in the corners of 64", x.reckoned(), 1L << 63 | 1L << 23 | 1L << 58);
     }
 
-    private void steerToTheLastHour() {
-        CanoeMaster x = new CanoeMaster();
-        for (int hour = 0; hour < 9999; hour++) {
-            x.steer(4, 4);
-        }
-        due.is("11: look(2)", x.look(2), 9999);
-        due.is("11: steer(4, 4) at hour 9999", x.steer(4, 4), -1);
-        due.is("11: look(2)", x.look(2), 9999);
-    }
-
     private void sign() {
         CanoeMaster x = new CanoeMaster();
         x.sea(3, 8);
@@ -437,21 +397,21 @@ public final class PromisesTest {
 
     private void chant() {
         CanoeMaster x = new CanoeMaster();
-        due.is("17: a chant of one line", chant(x, "steer 3 for 20 ;"), 1);
+        due.is("17: a chant of one line", Texts.chant(x, "steer 3 for 20 ;"), 1);
         due.is("17: the tape is empty then", x.end(1), -1);
-        due.is("17: blanks and lines", chant(x, "\n steer 3\nuntil  swell 0 for 1;\nsteer 4 until star 3 for 20; \n"), 2);
-        due.is("17: no blanks where none are needed", chant(x, "steer3until birds for4;steer08for01;steer0until star03for9;"), 3);
-        due.is("17: a fault", chant(x, "steer 3 for 21;"), -1);
+        due.is("17: blanks and lines", Texts.chant(x, "\n steer 3\nuntil  swell 0 for 1;\nsteer 4 until star 3 for 20; \n"), 2);
+        due.is("17: no blanks where none are needed", Texts.chant(x, "steer3until birds for4;steer08for01;steer0until star03for9;"), 3);
+        due.is("17: a fault", Texts.chant(x, "steer 3 for 21;"), -1);
         due.is("17: the chant stays", x.look(6), 3);
         due.is("17: the tape is empty all the same", x.end(1), -1);
         due.is("17: an empty text", x.chant(), 0);
         due.is("17: look(6)", x.look(6), 0);
-        due.is("17: blanks alone", chant(x, " \n "), 0);
+        due.is("17: blanks alone", Texts.chant(x, " \n "), 0);
     }
 
     private void fault() {
         CanoeMaster x = new CanoeMaster();
-        chant(x, "steer 9 for 1;");
+        Texts.chant(x, "steer 9 for 1;");
         int[] others = {-1, 2, MIN, MAX};
         for (int what : others) {
             due.is("18: fault(" + what + ")", x.fault(what), -1);
@@ -468,60 +428,60 @@ public final class PromisesTest {
     }
 
     private void faultPlaces() {
-        faultOf("steer 0 for 1;", 0, -1);
-        faultOf("steer 8 until star 3 for 20;", 0, -1);
-        faultOf("steer 9 for 1;", 2, 6);
-        faultOf("steer 99 for 0;", 2, 6);
-        faultOf("steer 100 for 1;", 1, 6);
-        faultOf("steer 000 for 1;", 1, 6);
-        faultOf("steer 00 for 01;", 0, -1);
-        faultOf("steer 0 for 0;", 2, 12);
-        faultOf("steer 0 for 00;", 2, 12);
-        faultOf("steer 0 for 21;", 2, 12);
-        faultOf("steer 0 for 020;", 1, 12);
-        faultOf("steer 0 until swell 4 for 1;", 2, 20);
-        faultOf("steer 0 until star 4 for 1;", 2, 19);
-        faultOf("steer 0 until birds 1 for 1;", 1, 20);
-        faultOf("steer 0 until swell for 1;", 1, 20);
-        faultOf("steer 0 until for 1;", 1, 14);
-        faultOf("steer 0 until 3 for 1;", 1, 14);
-        faultOf("steer 0 untilbirds for 1;", 1, 8);
-        faultOf("steer until birds for 1;", 1, 6);
-        faultOf("steer 0 0 for 1;", 1, 8);
-        faultOf("steer 0 for 1", 1, 13);
-        faultOf("steer 0 for 1 \n", 1, 15);
-        faultOf("steer", 1, 5);
-        faultOf("steer 0 until", 1, 13);
-        faultOf("steer 0 for 1;;", 1, 14);
-        faultOf(";", 1, 0);
-        faultOf("  7", 1, 2);
-        faultOf("STEER 0 for 1;", 1, 0);
-        faultOf("steerX 0 for 1;", 1, 0);
-        faultOf("steers 0 for 1;", 1, 0);
-        faultOf("stee 0 for 1;", 1, 0);
-        faultOf("steer\t0 for 1;", 1, 5);
-        faultOf("steer\r0 for 1;", 1, 5);
-        faultOf("steer -1 for 1;", 1, 6);
-        faultOf("steer 0 for 1; x", 1, 15);
-        faultOf("steer 0 for 1; steer 0 for 1; for", 1, 30);
-        faultOf("steer 0 for 1;\u0000", 1, 14);
-        faultOf("steer 0 for 1;\u00ff", 1, 14);
-        faultOf("steer 0 for 30 x", 2, 12);
+        due.faultOf("steer 0 for 1;", 0, -1);
+        due.faultOf("steer 8 until star 3 for 20;", 0, -1);
+        due.faultOf("steer 9 for 1;", 2, 6);
+        due.faultOf("steer 99 for 0;", 2, 6);
+        due.faultOf("steer 100 for 1;", 1, 6);
+        due.faultOf("steer 000 for 1;", 1, 6);
+        due.faultOf("steer 00 for 01;", 0, -1);
+        due.faultOf("steer 0 for 0;", 2, 12);
+        due.faultOf("steer 0 for 00;", 2, 12);
+        due.faultOf("steer 0 for 21;", 2, 12);
+        due.faultOf("steer 0 for 020;", 1, 12);
+        due.faultOf("steer 0 until swell 4 for 1;", 2, 20);
+        due.faultOf("steer 0 until star 4 for 1;", 2, 19);
+        due.faultOf("steer 0 until birds 1 for 1;", 1, 20);
+        due.faultOf("steer 0 until swell for 1;", 1, 20);
+        due.faultOf("steer 0 until for 1;", 1, 14);
+        due.faultOf("steer 0 until 3 for 1;", 1, 14);
+        due.faultOf("steer 0 untilbirds for 1;", 1, 8);
+        due.faultOf("steer until birds for 1;", 1, 6);
+        due.faultOf("steer 0 0 for 1;", 1, 8);
+        due.faultOf("steer 0 for 1", 1, 13);
+        due.faultOf("steer 0 for 1 \n", 1, 15);
+        due.faultOf("steer", 1, 5);
+        due.faultOf("steer 0 until", 1, 13);
+        due.faultOf("steer 0 for 1;;", 1, 14);
+        due.faultOf(";", 1, 0);
+        due.faultOf("  7", 1, 2);
+        due.faultOf("STEER 0 for 1;", 1, 0);
+        due.faultOf("steerX 0 for 1;", 1, 0);
+        due.faultOf("steers 0 for 1;", 1, 0);
+        due.faultOf("stee 0 for 1;", 1, 0);
+        due.faultOf("steer\t0 for 1;", 1, 5);
+        due.faultOf("steer\r0 for 1;", 1, 5);
+        due.faultOf("steer -1 for 1;", 1, 6);
+        due.faultOf("steer 0 for 1; x", 1, 15);
+        due.faultOf("steer 0 for 1; steer 0 for 1; for", 1, 30);
+        due.faultOf("steer 0 for 1;\u0000", 1, 14);
+        due.faultOf("steer 0 for 1;\u00ff", 1, 14);
+        due.faultOf("steer 0 for 30 x", 2, 12);
     }
 
     private void thirteenthLine() {
         String twelve = "steer 0 for 1;".repeat(12);
-        faultOf(twelve, 0, -1);
-        faultOf(twelve + "  ", 0, -1);
-        faultOf(twelve + " steer 0 for 1;", 3, 169);
-        faultOf(twelve + "steer", 3, 168);
-        faultOf(twelve + "steer 99", 3, 168);
-        faultOf(twelve + "steers", 1, 168);
-        faultOf(twelve + ";", 1, 168);
-        faultOf("steer 0 for 0;" + twelve + "steer", 2, 12);
+        due.faultOf(twelve, 0, -1);
+        due.faultOf(twelve + "  ", 0, -1);
+        due.faultOf(twelve + " steer 0 for 1;", 3, 169);
+        due.faultOf(twelve + "steer", 3, 168);
+        due.faultOf(twelve + "steer 99", 3, 168);
+        due.faultOf(twelve + "steers", 1, 168);
+        due.faultOf(twelve + ";", 1, 168);
+        due.faultOf("steer 0 for 0;" + twelve + "steer", 2, 12);
         CanoeMaster x = new CanoeMaster();
-        due.is("17: twelve lines", chant(x, twelve), 12);
-        due.is("17: thirteen lines", chant(x, twelve + "steer 0 for 1;"), -1);
+        due.is("17: twelve lines", Texts.chant(x, twelve), 12);
+        due.is("17: thirteen lines", Texts.chant(x, twelve + "steer 0 for 1;"), -1);
         due.is("17: look(6)", x.look(6), 12);
     }
 
@@ -535,11 +495,11 @@ public final class PromisesTest {
         due.is("19: no chant lands from the sea", x.sure(0), -1);
         due.is("19: what is on land has landed", x.sure(1), 0);
         due.is("19: all but the land are not sure", x.sure(2), 15);
-        chant(x, "steer 0 for 3;");
+        Texts.chant(x, "steer 0 for 3;");
         due.is("19: sure(0)", x.sure(0), 3);
         due.is("19: sure(1)", x.sure(1), 0);
         due.is("19: sure(2)", x.sure(2), 0);
-        chant(x, "steer 0 for 2;");
+        Texts.chant(x, "steer 0 for 2;");
         due.is("19: an hour too few", x.sure(0), -1);
         due.is("19: the far rows are not sure", x.sure(2), 7);
         x.begin(1 << 15);
@@ -563,18 +523,18 @@ public final class PromisesTest {
         for (int watch = 0; watch < 6; watch++) {
             x.drifts(watch, 1 << 3 | 1 << 4);
         }
-        chant(x, "steer 3 for 7;");
+        Texts.chant(x, "steer 3 for 7;");
         due.is("19: LONGEST, without help", x.sure(0), 7);
         due.is("19: SHORTEST, with all help", x.sure(1), 4);
-        chant(x, "steer 4 for 20;");
+        Texts.chant(x, "steer 4 for 20;");
         due.is("19: it may, but is not sure", x.sure(0) == -1 && x.sure(1) == 7 && x.sure(2) == 1, true);
-        chant(x, "steer 5 for 20;");
+        Texts.chant(x, "steer 5 for 20;");
         due.is("19: it never lands", x.sure(0) == -1 && x.sure(1) == -1, true);
         String twelve = "steer 4 for 20;".repeat(11) + "steer 3 for 20;";
         for (int watch = 0; watch < 6; watch++) {
             x.drifts(watch, 1 << 4);
         }
-        chant(x, twelve);
+        Texts.chant(x, twelve);
         due.is("19: the longest that can be waited", x.sure(0), 227);
         due.is("19: SHORTEST", x.sure(1), 227);
     }
@@ -584,7 +544,7 @@ public final class PromisesTest {
         x.land(0, 1);
         x.watches(1 << 3, 1 << 3);
         x.begin(1 << 5);
-        chant(x, "steer 4 until birds for 20; steer 0 for 1;");
+        Texts.chant(x, "steer 4 until birds for 20; steer 0 for 1;");
         due.is("19: the birds come at hour 3", x.sure(0), 4);
         x.steer(4, 4);
         due.is("19: from now on", x.sure(0), 3);
@@ -594,16 +554,16 @@ public final class PromisesTest {
         x.steer(4, 4);
         due.is("19: on the next day", x.sure(0), 6);
         x.begin(1 << 5);
-        chant(x, "steer 4 until star 0 for 2; steer 0 for 1;");
+        Texts.chant(x, "steer 4 until star 0 for 2; steer 0 for 1;");
         due.is("19: no star by day", x.sure(0), 3);
-        chant(x, "steer 4 until swell 0 for 2; steer 0 until swell 1 for 1;");
+        Texts.chant(x, "steer 4 until swell 0 for 2; steer 0 until swell 1 for 1;");
         due.is("19: a line left out", x.sure(0), 1);
         x.swell(5, 1);
         due.is("19: the sea changes, the chant is judged anew", x.sure(0), -1);
         x.land(5, 0);
         due.is("19: LAND ends it ahead of any sign", x.sure(0), 0);
         x.land(5, -1);
-        chant(x, "steer 4 until star 1 for 20; steer 0 for 5;");
+        Texts.chant(x, "steer 4 until star 1 for 20; steer 0 for 5;");
         due.is("19: a star that is never seen", x.sure(0), 21);
     }
 
@@ -617,7 +577,7 @@ public final class PromisesTest {
         }
         due.is("20: on land without a chant", x.from(0), 0);
         due.is("20: at sea without a chant", x.from(1), -1);
-        chant(x, "steer 0 for 2;");
+        Texts.chant(x, "steer 0 for 2;");
         int[] hours = {0, 1, 2, -1, 1, 1, 2, -1, 2, 2, 2, -1, -1, -1, -1, -1};
         for (int cell = 0; cell < 16; cell++) {
             due.is("20: from(" + cell + "), reckoned or not", x.from(cell), hours[cell]);
@@ -633,7 +593,7 @@ public final class PromisesTest {
 
     private void sings() {
         CanoeMaster x = new CanoeMaster();
-        chant(x, "steer 1 until birds for 1; steer 2 until swell 2 for 1; steer 3 until star 0 for 1;");
+        Texts.chant(x, "steer 1 until birds for 1; steer 2 until swell 2 for 1; steer 3 until star 0 for 1;");
         due.is("21: no true canoe", x.sings(0), -1);
         x.put(5);
         int[] wrong = {-1, 3, MIN, MAX};
