@@ -23,6 +23,7 @@ public final class FaceTest {
     public static void main(String[] args) throws ReflectiveOperationException {
         FaceTest test = new FaceTest();
         test.face();
+        test.classesInside();
         test.neverThrows();
         test.due.finish();
     }
@@ -49,6 +50,24 @@ public final class FaceTest {
         Constructor<?>[] made = c.getDeclaredConstructors();
         due.is("there is one constructor, public and bare", made.length == 1 && Modifier.isPublic(made[0].getModifiers())
             && made[0].getParameterCount() == 0, true);
+    }
+
+    private void classesInside() {
+        for (Class<?> c : CanoeMaster.class.getDeclaredClasses()) {
+            int bits = c.getModifiers();
+            due.is(c + " is static", Modifier.isStatic(bits), true);
+            due.is(c + " is private or package-visible", Modifier.isPublic(bits) || Modifier.isProtected(bits), false);
+            int held = 0;
+            for (Field f : c.getDeclaredFields()) {
+                held += Modifier.isStatic(f.getModifiers()) ? 0 : 1;
+                boolean changes = Modifier.isStatic(f.getModifiers()) && !Modifier.isFinal(f.getModifiers());
+                due.is(f + " is static and not final", changes, false);
+            }
+            due.is(c + " has twenty fields at most, not " + held, held <= 20, true);
+            for (Method m : c.getDeclaredMethods()) {
+                due.is(m + " bears a name of the face", FACE.stream().anyMatch(f -> f.contains(" " + m.getName() + "(")), false);
+            }
+        }
     }
 
     private static String told(Method m) {
